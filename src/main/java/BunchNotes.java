@@ -657,7 +657,7 @@ public final class BunchNotes {
         }
 
         int levelOf(int node) {
-            return has(node) ? levels[node] : 0;
+            return node >= 0 && node < nodes ? levels[node] : 0;
         }
 
         boolean hasRoomFor(int u, int v) {
