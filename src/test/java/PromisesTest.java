@@ -169,6 +169,13 @@ public final class PromisesTest {
         faultIs(x, "net;", 3);
         faultIs(x, "ne t 3", 0);
         faultIs(x, "nets 3", 0);
+        faultIs(x, "neta 3", 0);
+        faultIs(x, "netz 3", 0);
+        faultIs(x, "xet 3", 0);
+        faultIs(x, "link`0 1 5", 4);
+        faultIs(x, "link{0 1 5", 4);
+        faultIs(x, "link/0 1 5", 4);
+        faultIs(x, "link:0 1 5", 4);
         faultIs(x, "Net 3", 0);
         faultIs(x, "neT 3", 0);
         faultIs(x, " net 3;", 7);
@@ -277,6 +284,7 @@ public final class PromisesTest {
         due.is("net() anew", x.net(), 3);
         due.is("new nodes", x.count(0), 3);
         due.is("no links", x.count(1), 0);
+        due.is("no ways", x.distance(0, 1), NONE);
         due.is("notes are blank", x.count(3), 0);
         due.is("level(1)", x.level(1), 2);
         due.is("level(2) is 0 again", x.level(2), 0);
@@ -352,6 +360,9 @@ public final class PromisesTest {
         due.is("links when full", full.count(1), 30);
         due.is("another length when full", full.join(1, 0, 5), 30);
         due.is("that length", full.link(0, 2), 5);
+        full.join(0, 1, 1);
+        due.is("another length than 1 when full", full.join(0, 1, 2), 30);
+        faultIs(full, "link 0 1 1;link 0 1 99", NONE);
     }
 
     private static void cut() {
@@ -368,6 +379,9 @@ public final class PromisesTest {
             due.is("cut(" + v + ", 0)", x.cut(v, 0), UNKNOWN);
         }
         due.is("acts", x.count(6), 1);
+        x.join(0, 1, 1);
+        due.is("cut() of length 1", x.cut(1, 0), 1);
+        due.is("links left", x.count(1), 5);
     }
 
     private static void lift() {
@@ -683,6 +697,9 @@ public final class PromisesTest {
         due.is("worst(1, -1)", x.worst(1, -1), OUTSIDE);
         due.is("worst() without a pair", new BunchNotes().worst(1, 0), NONE);
         due.is("worst() without a pair, below", new BunchNotes().worst(1, 1), NONE);
+        BunchNotes one = netOf("link 0 1 7");
+        due.is("worst() of one pair", one.worst(9, 0), 1);
+        due.is("worst() of one pair, below", one.worst(9, 1), 1);
         BunchNotes apart = netOf("net 4;link 0 1 6;link 1 2 4;link 0 2 4");
         due.is("in least terms, above", apart.worst(2, 0), 4);
         due.is("in least terms, below", apart.worst(2, 1), 3);
@@ -780,6 +797,12 @@ public final class PromisesTest {
         due.is("and back", x.count(4), 3);
         x.lift(0, 1);
         due.is("a level by which nearest ones change", x.count(4), 0);
+        BunchNotes y = netOf("net 3;link 0 1 5;link 0 2 5;level 2 2");
+        y.note(0);
+        y.lift(1, 1);
+        due.is("another nearest, as far, in the same bunch: 1", y.nearest(0, 1, 0), 1);
+        due.is("the same bunch", y.bunch(0, 0), y.noted(0, 7));
+        due.is("yet it is old", y.noted(0, 0), 0);
     }
 
     private static void notedFar() {
