@@ -2,9 +2,6 @@
 public final class PromisesTest {
     private static final int NONE = -1, UNKNOWN = -2, OUTSIDE = -3, NOT = -4, FULL = -5;
     private static final int[] WRONG_NODES = {-1, -2, 6, 12, 13, Integer.MAX_VALUE, Integer.MIN_VALUE};
-    /** A ring of six, all lengths 4, a chord 0-3 of 9; 2 has level 1, 4 has level 2. */
-    private static final String RING = "net 6;link 0 1 4;link 1 2 4;link 2 3 4;link 3 4 4;"
-            + "link 4 5 4;link 5 0 4;link 0 3 9;level 2 1;level 4 2";
 
     private static final Due due = new Due();
 
@@ -49,57 +46,11 @@ public final class PromisesTest {
 
     // ---- helpers
 
-    private static void typeAll(BunchNotes x, String text) {
-        for (int i = 0; i < text.length(); i++) {
-            x.type(text.charAt(i));
-        }
-    }
-
-    private static BunchNotes netOf(String text) {
-        BunchNotes x = new BunchNotes();
-        typeAll(x, text);
-        due.holds("net of " + text, x.net() > 0);
-        return x;
-    }
-
-    private static BunchNotes ring() {
-        return netOf(RING);
-    }
-
     private static void faultIs(BunchNotes x, String text, int want) {
         x.erase();
-        typeAll(x, text);
+        Nets.typeAll(x, text);
         due.is("fault() of '" + text + "'", x.fault(), want);
         due.is("letters of '" + text + "' behind fault()", x.count(7), text.length());
-    }
-
-    private static String times(String part, int count) {
-        StringBuilder all = new StringBuilder();
-        for (int i = 0; i < count; i++) {
-            all.append(i == 0 ? "" : ";").append(part);
-        }
-        return all.toString();
-    }
-
-    /** Twelve nodes and 30 links: 0 to all others, 1 to all above, 2 to 3 to 11. */
-    private static BunchNotes fullNet() {
-        BunchNotes x = netOf("net 12");
-        int links = 0;
-        for (int u = 0; u < 12; u++) {
-            for (int v = u + 1; v < 12 && links < 30; v++) {
-                links++;
-                due.is("join " + u + " " + v, x.join(u, v, 50), links);
-            }
-        }
-        return x;
-    }
-
-    private static int set(int... nodes) {
-        int bits = 0;
-        for (int node : nodes) {
-            bits |= 1 << node;
-        }
-        return bits;
     }
 
     // ---- promise 1
@@ -142,7 +93,7 @@ public final class PromisesTest {
 
     private static void erase() {
         BunchNotes x = new BunchNotes();
-        typeAll(x, "net 3");
+        Nets.typeAll(x, "net 3");
         due.is("erase()", x.erase(), 5);
         due.is("erase() again", x.erase(), 0);
         due.is("letters", x.count(7), 0);
@@ -232,18 +183,18 @@ public final class PromisesTest {
         faultIs(x, "net 5;level 4 1", NONE);
         faultIs(x, "net 5;net 3;level 4 1", 18);
         faultIs(x, "level 4 1;net 5", 6);
-        BunchNotes six = ring();
+        BunchNotes six = Nets.ring();
         faultIs(six, "level 5 1;link 5 4 9", NONE);
         faultIs(six, "net 2;level 5 1", 12);
     }
 
     private static void faultOfFulness() {
         BunchNotes x = new BunchNotes();
-        faultIs(x, times("net 3", 24), NONE);
-        faultIs(x, times("net 3", 25), 24 * 6 - 1);
-        faultIs(x, times("net 3", 24) + ";", 24 * 6 - 1);
-        faultIs(x, times("net 3", 24) + " x", 24 * 6);
-        BunchNotes full = fullNet();
+        faultIs(x, Nets.times("net 3", 24), NONE);
+        faultIs(x, Nets.times("net 3", 25), 24 * 6 - 1);
+        faultIs(x, Nets.times("net 3", 24) + ";", 24 * 6 - 1);
+        faultIs(x, Nets.times("net 3", 24) + " x", 24 * 6);
+        BunchNotes full = Nets.full();
         faultIs(full, "link 0 1 7", NONE);
         faultIs(full, "link 1 0 7;link 11 0 2", NONE);
         faultIs(full, "link 10 11 7", 8);
@@ -259,7 +210,7 @@ public final class PromisesTest {
     private static void net() {
         BunchNotes x = new BunchNotes();
         due.is("net() of nothing", x.net(), NOT);
-        typeAll(x, "net 4;link 3 1 8;level 2 1;level 2 2;link 1 3 9");
+        Nets.typeAll(x, "net 4;link 3 1 8;level 2 1;level 2 2;link 1 3 9");
         due.is("net()", x.net(), 5);
         due.is("letters behind net()", x.count(7), 0);
         due.is("nodes", x.count(0), 4);
@@ -271,7 +222,7 @@ public final class PromisesTest {
         x.lift(3, 1);
         x.mend();
         x.keep(1);
-        typeAll(x, "link 0 1 5");
+        Nets.typeAll(x, "link 0 1 5");
         due.is("net() of a link", x.net(), 1);
         due.is("nodes stay", x.count(0), 4);
         due.is("links stay", x.count(1), 2);
@@ -280,7 +231,7 @@ public final class PromisesTest {
         due.is("DRAW stays", x.count(8), drawn);
         due.is("nothing can be undone", x.undo(), NOT);
         due.is("nothing is kept", x.back(1), NOT);
-        typeAll(x, "link 0 1 5;net 3;level 1 2");
+        Nets.typeAll(x, "link 0 1 5;net 3;level 1 2");
         due.is("net() anew", x.net(), 3);
         due.is("new nodes", x.count(0), 3);
         due.is("no links", x.count(1), 0);
@@ -292,7 +243,7 @@ public final class PromisesTest {
         x.join(0, 1, 1);
         x.keep(0);
         x.note(0);
-        typeAll(x, "net 9;level");
+        Nets.typeAll(x, "net 9;level");
         due.is("net() with a fault", x.net(), NOT);
         due.is("a fault: letters stay", x.count(7), 11);
         due.is("a fault: nodes stay", x.count(0), 3);
@@ -304,7 +255,7 @@ public final class PromisesTest {
     // ---- promises 6, 7
 
     private static void link() {
-        BunchNotes x = ring();
+        BunchNotes x = Nets.ring();
         int[][] links = {{0, 1, 4}, {0, 3, 9}, {0, 5, 4}, {1, 2, 4}, {2, 3, 4}, {3, 4, 4}, {4, 5, 4}};
         for (int i = 0; i < links.length; i++) {
             for (int what = 0; what < 3; what++) {
@@ -319,11 +270,11 @@ public final class PromisesTest {
         x.join(4, 1, 99);
         due.is("a new link moves numbers", x.link(4, 1), 4);
         due.is("its length", x.link(4, 2), 99);
-        due.is("link(29) of a full net", fullNet().link(29, 1), 11);
+        due.is("link(29) of a full net", Nets.full().link(29, 1), 11);
     }
 
     private static void level() {
-        BunchNotes x = ring();
+        BunchNotes x = Nets.ring();
         int[] levels = {0, 0, 1, 0, 2, 0};
         for (int v = 0; v < 6; v++) {
             due.is("level(" + v + ")", x.level(v), levels[v]);
@@ -336,7 +287,7 @@ public final class PromisesTest {
     // ---- promises 8 to 12
 
     private static void join() {
-        BunchNotes x = ring();
+        BunchNotes x = Nets.ring();
         due.is("join a new one", x.join(5, 1, 99), 8);
         due.is("join again, other way round", x.join(1, 5, 1), 8);
         due.is("its length", x.link(4, 2), 1);
@@ -354,7 +305,7 @@ public final class PromisesTest {
         due.is("join(0, 1, -5)", x.join(0, 1, -5), OUTSIDE);
         due.is("links", x.count(1), 8);
         due.is("acts", x.count(6), 2);
-        BunchNotes full = fullNet();
+        BunchNotes full = Nets.full();
         due.is("a 31st link", full.join(10, 11, 5), FULL);
         due.is("a 31st link of a wrong length", full.join(10, 11, 100), OUTSIDE);
         due.is("links when full", full.count(1), 30);
@@ -366,7 +317,7 @@ public final class PromisesTest {
     }
 
     private static void cut() {
-        BunchNotes x = ring();
+        BunchNotes x = Nets.ring();
         due.is("cut(3, 0)", x.cut(3, 0), 9);
         due.is("cut(0, 3)", x.cut(0, 3), NOT);
         due.is("cut(3, 0) again", x.cut(3, 0), NOT);
@@ -385,7 +336,7 @@ public final class PromisesTest {
     }
 
     private static void lift() {
-        BunchNotes x = ring();
+        BunchNotes x = Nets.ring();
         due.is("lift(0, 2)", x.lift(0, 2), 0);
         due.is("lift(0, 2) again", x.lift(0, 2), 2);
         due.is("lift(0, 1)", x.lift(0, 1), 2);
@@ -404,7 +355,7 @@ public final class PromisesTest {
     private static void draw() {
         int[] seeds = {0, 1, -1, 5, 12345, Integer.MAX_VALUE, Integer.MIN_VALUE, 987654321, -777};
         for (int seed : seeds) {
-            BunchNotes x = netOf("net 12;level 0 2;level 1 1");
+            BunchNotes x = Nets.of("net 12;level 0 2;level 1 1");
             long draw = seed & 0xFFFFFFFFL;
             int lifted = 0;
             int[] levels = new int[12];
@@ -420,7 +371,7 @@ public final class PromisesTest {
             }
             due.is("DRAW", x.count(8), (int) draw);
             due.is("acts", x.count(6), 1);
-            due.is("draw(DRAW) goes on", x.draw(x.count(8)), netOf("net 12").draw((int) draw));
+            due.is("draw(DRAW) goes on", x.draw(x.count(8)), Nets.of("net 12").draw((int) draw));
         }
         BunchNotes two = new BunchNotes();
         two.draw(1);
@@ -428,7 +379,7 @@ public final class PromisesTest {
     }
 
     private static void thin() {
-        BunchNotes x = ring();
+        BunchNotes x = Nets.ring();
         due.is("thin(0)", x.thin(0), OUTSIDE);
         due.is("thin(10)", x.thin(10), OUTSIDE);
         due.is("thin(-1)", x.thin(-1), OUTSIDE);
@@ -447,7 +398,7 @@ public final class PromisesTest {
     // ---- promises 13 to 15
 
     private static void undo() {
-        BunchNotes x = ring();
+        BunchNotes x = Nets.ring();
         due.is("undo() of nothing", x.undo(), NOT);
         x.join(0, 3, 50);
         x.cut(0, 1);
@@ -483,7 +434,7 @@ public final class PromisesTest {
     }
 
     private static void undoOfNothingOther() {
-        BunchNotes x = ring();
+        BunchNotes x = Nets.ring();
         x.join(0, 1, 4);
         x.lift(0, 0);
         x.thin(1);
@@ -519,7 +470,7 @@ public final class PromisesTest {
     }
 
     private static void keepAndBack() {
-        BunchNotes x = ring();
+        BunchNotes x = Nets.ring();
         int[] wrong = {-1, 2, 3, Integer.MAX_VALUE, Integer.MIN_VALUE};
         for (int k : wrong) {
             due.is("keep(" + k + ")", x.keep(k), OUTSIDE);
@@ -556,7 +507,7 @@ public final class PromisesTest {
         due.is("keep(0) anew", x.keep(0), 1);
         x.mend();
         due.is("back(0) anew", x.back(0), 1);
-        typeAll(x, "level 0 0");
+        Nets.typeAll(x, "level 0 0");
         x.net();
         due.is("back(0) behind a text", x.back(0), NOT);
         due.is("back(1) behind a text", x.back(1), NOT);
@@ -568,7 +519,7 @@ public final class PromisesTest {
     // ---- promises 16 to 21
 
     private static void distance() {
-        BunchNotes x = ring();
+        BunchNotes x = Nets.ring();
         int[][] want = {
             {0, 4, 8, 9, 8, 4}, {4, 0, 4, 8, 12, 8}, {8, 4, 0, 4, 8, 12},
             {9, 8, 4, 0, 4, 8}, {8, 12, 8, 4, 0, 4}, {4, 8, 12, 8, 4, 0}};
@@ -581,11 +532,11 @@ public final class PromisesTest {
             due.is("distance(0, " + v + ")", x.distance(0, v), UNKNOWN);
             due.is("distance(" + v + ", " + v + ")", x.distance(v, v), UNKNOWN);
         }
-        BunchNotes two = netOf("net 5;link 0 1 99;link 1 2 99;link 3 4 1");
+        BunchNotes two = Nets.of("net 5;link 0 1 99;link 1 2 99;link 3 4 1");
         due.is("distance by two links", two.distance(2, 0), 198);
         due.is("distance of parts", two.distance(0, 4), NONE);
         due.is("distance of itself", two.distance(4, 4), 0);
-        BunchNotes chain = netOf("net 12");
+        BunchNotes chain = Nets.of("net 12");
         for (int v = 1; v < 12; v++) {
             chain.join(v - 1, v, 99);
         }
@@ -593,7 +544,7 @@ public final class PromisesTest {
     }
 
     private static void nearest() {
-        BunchNotes x = ring();
+        BunchNotes x = Nets.ring();
         int[] first = {2, 2, 2, 2, 4, 4};
         int[] firstFar = {8, 4, 0, 4, 0, 4};
         int[] secondFar = {8, 12, 8, 4, 0, 4};
@@ -612,16 +563,18 @@ public final class PromisesTest {
         due.is("nearest(0, -1, 0)", x.nearest(0, -1, 0), OUTSIDE);
         due.is("nearest(0, 0, 2)", x.nearest(0, 0, 2), OUTSIDE);
         due.is("nearest(0, 0, -1)", x.nearest(0, 0, -1), OUTSIDE);
-        BunchNotes apart = netOf("net 3;link 0 1 5;level 2 2");
+        BunchNotes apart = Nets.of("net 3;link 0 1 5;level 2 2");
         due.is("no way to a centre", apart.nearest(0, 1, 0), NONE);
         due.is("no way to a centre, how far", apart.nearest(0, 1, 1), NONE);
         due.is("a centre itself", apart.nearest(2, 1, 0), 2);
     }
 
     private static void bunch() {
-        BunchNotes x = ring();
-        int[] bunches = {set(0, 1, 4, 5), set(1, 2, 4), set(2, 4), set(3, 4), set(4), set(4, 5)};
-        int[] clusters = {set(0), set(0, 1), set(1, 2), set(3), set(0, 1, 2, 3, 4, 5), set(0, 5)};
+        BunchNotes x = Nets.ring();
+        int[] bunches = {Nets.set(0, 1, 4, 5), Nets.set(1, 2, 4), Nets.set(2, 4),
+            Nets.set(3, 4), Nets.set(4), Nets.set(4, 5)};
+        int[] clusters = {Nets.set(0), Nets.set(0, 1), Nets.set(1, 2),
+            Nets.set(3), Nets.set(0, 1, 2, 3, 4, 5), Nets.set(0, 5)};
         for (int v = 0; v < 6; v++) {
             due.is("bunch(" + v + ", 0)", x.bunch(v, 0), bunches[v]);
             due.is("bunch(" + v + ", 1)", x.bunch(v, 1), clusters[v]);
@@ -631,17 +584,17 @@ public final class PromisesTest {
         }
         due.is("bunch(0, 2)", x.bunch(0, 2), OUTSIDE);
         due.is("bunch(0, -1)", x.bunch(0, -1), OUTSIDE);
-        BunchNotes flat = netOf("net 4;link 0 1 5;link 1 2 5");
-        due.is("no level above: all to which there is a way", flat.bunch(2, 0), set(0, 1, 2));
-        due.is("and the cluster", flat.bunch(2, 1), set(0, 1, 2));
-        due.is("a node by itself", flat.bunch(3, 0), set(3));
-        BunchNotes top = netOf("net 3;link 0 1 5;link 1 2 5;level 0 2;level 2 2");
-        due.is("of the top level all", top.bunch(0, 0), set(0, 2));
-        due.is("1 is nearer to itself", top.bunch(1, 0), set(0, 1, 2));
+        BunchNotes flat = Nets.of("net 4;link 0 1 5;link 1 2 5");
+        due.is("no level above: all to which there is a way", flat.bunch(2, 0), Nets.set(0, 1, 2));
+        due.is("and the cluster", flat.bunch(2, 1), Nets.set(0, 1, 2));
+        due.is("a node by itself", flat.bunch(3, 0), Nets.set(3));
+        BunchNotes top = Nets.of("net 3;link 0 1 5;link 1 2 5;level 0 2;level 2 2");
+        due.is("of the top level all", top.bunch(0, 0), Nets.set(0, 2));
+        due.is("1 is nearer to itself", top.bunch(1, 0), Nets.set(0, 1, 2));
     }
 
     private static void next() {
-        BunchNotes x = ring();
+        BunchNotes x = Nets.ring();
         due.is("next(0, 3), the chord", x.next(0, 3), 3);
         due.is("next(1, 4), of like ways the lowest", x.next(1, 4), 0);
         due.is("next(4, 1)", x.next(4, 1), 3);
@@ -652,9 +605,9 @@ public final class PromisesTest {
             due.is("next(0, " + v + ")", x.next(0, v), UNKNOWN);
             due.is("next(" + v + ", " + v + ")", x.next(v, v), UNKNOWN);
         }
-        BunchNotes apart = netOf("net 3;link 0 1 5");
+        BunchNotes apart = Nets.of("net 3;link 0 1 5");
         due.is("next without a way", apart.next(0, 2), NONE);
-        BunchNotes around = netOf("net 3;link 0 2 9;link 0 1 4;link 1 2 4");
+        BunchNotes around = Nets.of("net 3;link 0 2 9;link 0 1 4;link 1 2 4");
         due.is("next around a long link", around.next(0, 2), 1);
         around.join(0, 2, 8);
         due.is("like ways, the lowest", around.next(0, 2), 1);
@@ -662,7 +615,7 @@ public final class PromisesTest {
     }
 
     private static void thinned() {
-        BunchNotes x = ring();
+        BunchNotes x = Nets.ring();
         int[] counts = {7, 6, 6, 6, 5, 5, 5, 5, 5};
         for (int t = 1; t <= 9; t++) {
             due.is("thinned(" + t + ", NONE)", x.thinned(t, NONE), counts[t - 1]);
@@ -685,7 +638,7 @@ public final class PromisesTest {
     }
 
     private static void worst() {
-        BunchNotes x = ring();
+        BunchNotes x = Nets.ring();
         int[][] want = {{1, 1}, {4, 3}, {4, 3}, {4, 3}, {5, 1}, {5, 1}, {5, 1}, {5, 1}, {5, 1}};
         for (int t = 1; t <= 9; t++) {
             due.is("worst(" + t + ", 0)", x.worst(t, 0), want[t - 1][0]);
@@ -697,10 +650,10 @@ public final class PromisesTest {
         due.is("worst(1, -1)", x.worst(1, -1), OUTSIDE);
         due.is("worst() without a pair", new BunchNotes().worst(1, 0), NONE);
         due.is("worst() without a pair, below", new BunchNotes().worst(1, 1), NONE);
-        BunchNotes one = netOf("link 0 1 7");
+        BunchNotes one = Nets.of("link 0 1 7");
         due.is("worst() of one pair", one.worst(9, 0), 1);
         due.is("worst() of one pair, below", one.worst(9, 1), 1);
-        BunchNotes apart = netOf("net 4;link 0 1 6;link 1 2 4;link 0 2 4");
+        BunchNotes apart = Nets.of("net 4;link 0 1 6;link 1 2 4;link 0 2 4");
         due.is("in least terms, above", apart.worst(2, 0), 4);
         due.is("in least terms, below", apart.worst(2, 1), 3);
     }
@@ -708,7 +661,7 @@ public final class PromisesTest {
     // ---- promises 22 to 26
 
     private static void note() {
-        BunchNotes x = ring();
+        BunchNotes x = Nets.ring();
         int[] sizes = {4, 3, 2, 2, 1, 2};
         for (int v = 0; v < 6; v++) {
             due.is("note(" + v + ")", x.note(v), sizes[v]);
@@ -717,14 +670,14 @@ public final class PromisesTest {
         due.is("all are fresh", x.count(4), 6);
         x.cut(0, 1);
         due.is("note(0) again", x.note(0), 3);
-        due.is("it bears what is now", x.noted(0, 7), set(0, 4, 5));
+        due.is("it bears what is now", x.noted(0, 7), Nets.set(0, 4, 5));
         for (int v : WRONG_NODES) {
             due.is("note(" + v + ")", x.note(v), UNKNOWN);
         }
     }
 
     private static void mend() {
-        BunchNotes x = ring();
+        BunchNotes x = Nets.ring();
         x.note(3);
         due.is("mend() of blank ones", x.mend(), 5);
         due.is("mend() again", x.mend(), 0);
@@ -740,7 +693,7 @@ public final class PromisesTest {
     }
 
     private static void tear() {
-        BunchNotes x = ring();
+        BunchNotes x = Nets.ring();
         x.mend();
         due.is("tear(2)", x.tear(2), 1);
         due.is("tear(2) again", x.tear(2), 0);
@@ -753,7 +706,7 @@ public final class PromisesTest {
     }
 
     private static void noted() {
-        BunchNotes x = ring();
+        BunchNotes x = Nets.ring();
         due.is("noted(0, 0) of a blank one", x.noted(0, 0), 0);
         for (int what = 1; what <= 7; what++) {
             due.is("noted(0, " + what + ") of a blank one", x.noted(0, what), NOT);
@@ -764,7 +717,7 @@ public final class PromisesTest {
             due.is("noted(" + v + ", 8)", x.noted(v, 8), UNKNOWN);
         }
         x.mend();
-        int[] want = {1, 1, 2, 4, 0, 4, 12, set(1, 2, 4)};
+        int[] want = {1, 1, 2, 4, 0, 4, 12, Nets.set(1, 2, 4)};
         for (int what = 0; what <= 7; what++) {
             due.is("noted(1, " + what + ")", x.noted(1, what), want[what]);
         }
@@ -781,13 +734,13 @@ public final class PromisesTest {
         due.is("no nearest at level 2", x.noted(1, 3), NONE);
         due.is("how far at level 1", x.noted(1, 5), NONE);
         due.is("how far at level 2", x.noted(1, 6), NONE);
-        due.is("all in the bunch", x.noted(1, 7), set(0, 1, 2, 3, 4, 5));
+        due.is("all in the bunch", x.noted(1, 7), Nets.set(0, 1, 2, 3, 4, 5));
         freshByAccident();
     }
 
     /** A note counts as fresh again when all it bears is true again. */
     private static void freshByAccident() {
-        BunchNotes x = netOf("net 3;link 0 1 5;link 1 2 5");
+        BunchNotes x = Nets.of("net 3;link 0 1 5;link 1 2 5");
         x.mend();
         x.join(0, 2, 10);
         due.is("a link that changes no distance", x.count(4), 3);
@@ -797,7 +750,7 @@ public final class PromisesTest {
         due.is("and back", x.count(4), 3);
         x.lift(0, 1);
         due.is("a level by which nearest ones change", x.count(4), 0);
-        BunchNotes y = netOf("net 3;link 0 1 5;link 0 2 5;level 2 2");
+        BunchNotes y = Nets.of("net 3;link 0 1 5;link 0 2 5;level 2 2");
         y.note(0);
         y.lift(1, 1);
         due.is("another nearest, as far, in the same bunch: 1", y.nearest(0, 1, 0), 1);
@@ -806,7 +759,7 @@ public final class PromisesTest {
     }
 
     private static void notedFar() {
-        BunchNotes x = ring();
+        BunchNotes x = Nets.ring();
         due.is("notedFar() of a blank one", x.notedFar(0, 0), NONE);
         x.mend();
         int[] want = {0, 4, NONE, NONE, 8, 4};
@@ -843,7 +796,7 @@ public final class PromisesTest {
     }
 
     private static void told() {
-        BunchNotes x = ring();
+        BunchNotes x = Nets.ring();
         toldIs(x, 0, 0, NONE, NONE, NONE);
         x.mend();
         toldIs(x, 3, 3, 0, 3, 0);
@@ -867,12 +820,12 @@ public final class PromisesTest {
     }
 
     private static void why() {
-        BunchNotes x = ring();
+        BunchNotes x = Nets.ring();
         whyIs(x, 2, 5, 1, 0, 2);
         x.note(2);
         whyIs(x, 2, 5, 1, 0, 5);
         whyIs(x, 5, 2, 1, 0, 5);
-        BunchNotes apart = netOf("net 4;link 0 1 5;link 2 3 5");
+        BunchNotes apart = Nets.of("net 4;link 0 1 5;link 2 3 5");
         apart.mend();
         whyIs(apart, 0, 2, 2, 1, 2);
         whyIs(apart, 3, 1, 2, 1, 1);
@@ -908,7 +861,7 @@ public final class PromisesTest {
     }
 
     private static void route() {
-        BunchNotes x = ring();
+        BunchNotes x = Nets.ring();
         due.is("route() untold", x.route(0, 1, 0), NOT);
         due.is("route() untold, k below 0", x.route(0, 1, -1), NOT);
         x.mend();
@@ -928,7 +881,7 @@ public final class PromisesTest {
         x.cut(3, 4);
         due.is("no way to w", x.route(0, 3, 0), NOT);
         due.is("no way to w, k below 0", x.route(0, 3, -1), NOT);
-        BunchNotes line = netOf("net 3;link 0 1 5;link 1 2 5");
+        BunchNotes line = Nets.of("net 3;link 0 1 5;link 1 2 5");
         line.mend();
         line.cut(1, 2);
         due.is("no way from w to v", line.route(0, 2, 0), NOT);
@@ -938,7 +891,7 @@ public final class PromisesTest {
 
     /** Eleven steps to the centre at one end of a chain, and ten back. */
     private static void longRoute() {
-        BunchNotes x = netOf("net 12;level 0 1;level 11 2");
+        BunchNotes x = Nets.of("net 12;level 0 1;level 11 2");
         for (int v = 1; v < 11; v++) {
             x.join(v, v + 1, 9);
         }
@@ -956,7 +909,7 @@ public final class PromisesTest {
     }
 
     private static void pairs() {
-        BunchNotes x = ring();
+        BunchNotes x = Nets.ring();
         due.is("pairs(0) of blank notes", x.pairs(0), NONE);
         due.is("pairs(1) of blank notes", x.pairs(1), NONE);
         due.is("pairs(2) of blank notes", x.pairs(2), 0);
@@ -974,7 +927,7 @@ public final class PromisesTest {
         due.is("pairs(3) without a way", x.pairs(3), 0);
         due.is("pairs(4)", x.pairs(4), OUTSIDE);
         due.is("pairs(-1)", x.pairs(-1), OUTSIDE);
-        BunchNotes alike = netOf("net 4;link 0 1 5;link 2 3 5");
+        BunchNotes alike = Nets.of("net 4;link 0 1 5;link 2 3 5");
         alike.mend();
         due.is("of like ones the lower u", alike.pairs(0), 0);
         due.is("of like ones the lower v", alike.pairs(1), 1);
@@ -990,12 +943,12 @@ public final class PromisesTest {
     }
 
     private static void count() {
-        BunchNotes x = ring();
+        BunchNotes x = Nets.ring();
         x.mend();
         x.tear(0);
         x.join(3, 4, 3);
         x.draw(5);
-        typeAll(x, "abc");
+        Nets.typeAll(x, "abc");
         x.undo();
         int[] want = {6, 7, 1, 5, 2, 10, 1, 3, 1, 4, 1, 1};
         for (int what = 0; what < want.length; what++) {
@@ -1004,7 +957,7 @@ public final class PromisesTest {
         due.is("count(12)", x.count(12), OUTSIDE);
         due.is("count(-1)", x.count(-1), OUTSIDE);
         due.is("count(max)", x.count(Integer.MAX_VALUE), OUTSIDE);
-        BunchNotes parts = netOf("net 9;link 8 0 5;link 2 3 5;link 3 4 5;link 1 8 1");
+        BunchNotes parts = Nets.of("net 9;link 8 0 5;link 2 3 5;link 3 4 5;link 1 8 1");
         due.is("parts", parts.count(2), 5);
         parts.join(4, 0, 1);
         due.is("parts joined", parts.count(2), 4);
