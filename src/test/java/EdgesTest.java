@@ -408,6 +408,17 @@ public final class EdgesTest {
                 worstIs(x, t - 1, 1, 1);
             }
         }
+        BunchNotes gone = Nets.of("net 3;link 0 1 5;link 1 2 5;link 0 2 5");
+        worstIs(gone, 2, 2, 1);
+        gone.mend();
+        gone.join(0, 1, 2);
+        pairsAre(gone, 0, 1, 3, 0);
+        gone.cut(0, 1);
+        gone.cut(1, 2);
+        gone.cut(0, 2);
+        worstIs(gone, 2, NONE, NONE);
+        pairsAre(gone, NONE, NONE, 0, 0);
+        worstIs(gone, 2, NONE, NONE);
         BunchNotes x = Nets.of("net 3;link 0 1 20;link 1 2 22;link 0 2 24");
         worstIs(x, 1, 1, 1);
         worstIs(x, 2, 7, 4);
@@ -590,6 +601,19 @@ public final class EdgesTest {
         routeIs(x, 0, 3, 0, 1, 3);
         x.tear(3);
         due.is("untold", x.route(0, 3, 0), NOT);
+        BunchNotes apart = Nets.row(5, 5);
+        apart.lift(1, 1);
+        apart.mend();
+        due.is("told by the middle", apart.told(0, 2, 1), 1);
+        apart.cut(0, 1);
+        for (int k = -1; k <= 3; k++) {
+            due.is("no way to w, though one from w to v, k " + k, apart.route(0, 2, k), NOT);
+        }
+        apart.join(0, 1, 9);
+        apart.cut(1, 2);
+        for (int k = -1; k <= 3; k++) {
+            due.is("a way to w, none from w to v, k " + k, apart.route(0, 2, k), NOT);
+        }
     }
 
     private static void pairsAre(BunchNotes x, int u, int v, int told, int untold) {

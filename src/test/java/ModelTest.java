@@ -42,7 +42,7 @@ public final class ModelTest {
         if (random.nextInt(4) > 0) {
             tell("net " + (2 + random.nextInt(11)));
         }
-        while (calls < CALLS && agreed) {
+        while (calls < CALLS - 1 && agreed) {
             if (calls < CALLS - 210 && random.nextInt(60) == 0) {
                 tell(drawnText());
             } else if (random.nextInt(3) == 0) {
@@ -90,7 +90,7 @@ public final class ModelTest {
         if (random.nextInt(3) > 0) {
             hold("net", x.net());
         }
-        nodes = x.count(0);
+        nodes = model.call("count", 0);
     }
 
     private String drawnText() {
@@ -157,7 +157,7 @@ public final class ModelTest {
             boxed[i] = given[i];
         }
         hold(method.getName(), (Integer) method.invoke(x, boxed), given);
-        nodes = x.count(0);
+        nodes = model.call("count", 0);
     }
 
     private void hold(String name, int got, int... given) {

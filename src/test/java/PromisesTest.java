@@ -189,11 +189,10 @@ public final class PromisesTest {
     }
 
     private static void faultOfFulness() {
-        BunchNotes x = new BunchNotes();
-        faultIs(x, Nets.times("net 3", 24), NONE);
-        faultIs(x, Nets.times("net 3", 25), 24 * 6 - 1);
-        faultIs(x, Nets.times("net 3", 24) + ";", 24 * 6 - 1);
-        faultIs(x, Nets.times("net 3", 24) + " x", 24 * 6);
+        faultIs(new BunchNotes(), Nets.times("net 3", 24), NONE);
+        faultIs(new BunchNotes(), Nets.times("net 3", 25), 24 * 6 - 1);
+        faultIs(new BunchNotes(), Nets.times("net 3", 24) + ";", 24 * 6 - 1);
+        faultIs(new BunchNotes(), Nets.times("net 3", 24) + " x", 24 * 6);
         BunchNotes full = Nets.full();
         faultIs(full, "link 0 1 7", NONE);
         faultIs(full, "link 1 0 7;link 11 0 2", NONE);
